@@ -232,14 +232,14 @@ public final class EffectNets {
         void takeFrom(Net other) {
             variables = other.variables;
             atoms = other.atoms;
-            System.arraycopy(other.births, 0, births, 0, MOST_VARIABLES);
-            System.arraycopy(other.atomBirths, 0, atomBirths, 0, MOST_ATOMS);
-            System.arraycopy(other.had, 0, had, 0, MOST_VARIABLES);
-            System.arraycopy(other.included, 0, included, 0, MOST_VARIABLES);
-            System.arraycopy(other.joined, 0, joined, 0, MOST_VARIABLES);
-            System.arraycopy(other.numbers, 0, numbers, 0, MOST_VARIABLES);
-            System.arraycopy(other.reached, 0, reached, 0, MOST_VARIABLES);
-            System.arraycopy(other.sets, 0, sets, 0, MOST_VARIABLES);
+            System.arraycopy(other.births, 0, births, 0, variables);
+            System.arraycopy(other.atomBirths, 0, atomBirths, 0, atoms);
+            System.arraycopy(other.had, 0, had, 0, variables);
+            System.arraycopy(other.included, 0, included, 0, variables);
+            System.arraycopy(other.joined, 0, joined, 0, variables);
+            System.arraycopy(other.numbers, 0, numbers, 0, variables);
+            System.arraycopy(other.reached, 0, reached, 0, variables);
+            System.arraycopy(other.sets, 0, sets, 0, variables);
         }
 
         int addVariable(int birth) {
@@ -561,9 +561,9 @@ public final class EffectNets {
         }
     }
 
-    /** Finds THE way, from its end: so that each step on can take the least variable. */
+    /** Finds THE way from its end, so that each step along it can take the least variable. */
     private static final class WayFinder {
-        /** Row d: the variables whose ways to the atom have d variables behind them. */
+        /** Row d: the variables from which d steps may lead to one that HAS the atom. */
         private final long[] layers = new long[MOST_VARIABLES];
 
         int lengthFrom(Net net, int v, int atom) {
@@ -571,14 +571,12 @@ public final class EffectNets {
                 return 0;
             }
             long layer = net.holdersOf(atom);
-            long met = layer;
             for (int d = 0; d < MOST_VARIABLES; d++) {
                 layers[d] = layer;
                 if (contains(layer, v)) {
                     return d + 1;
                 }
-                layer = net.leadingTo(layer) & ~met;
-                met |= layer;
+                layer = net.leadingTo(layer);
             }
             return 0;
         }
