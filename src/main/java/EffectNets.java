@@ -177,11 +177,11 @@ public final class EffectNets {
     }
 
     private static boolean contains(long mask, int n) {
-        return (mask & bit(n)) != 0;
+        return (mask >>> n & 1L) != 0;
     }
 
     private static boolean containsAtom(int atoms, int atom) {
-        return (atoms & (1 << atom)) != 0;
+        return (atoms >>> atom & 1) != 0;
     }
 
     private static int least(long mask) {
