@@ -70,9 +70,13 @@ public final class RefusedCalls {
         CallRun.end();
     }
 
+    private static void sentence(String words, State state) {
+        CallRun.sentence(words + " [" + state + "]");
+    }
+
     private static CallRun small() {
         return new CallRun()
-                .call("variable", 5).call("variable", 3).call("variable", 7).call("variable", 0)
+                .call("variable", 5).call("variable", 3).call("variable", 7).call("variable", 1)
                 .call("atom", 9).call("atom", 2)
                 .call("includes", 0, 1).call("has", 2, 0)
                 .call("mark")
@@ -80,7 +84,7 @@ public final class RefusedCalls {
                 .call("includes", 1, 2).call("includes", 2, 2).call("has", 1, 1).call("one", 0, 3);
     }
 
-    /** Two variables and two atoms are made, told of and taken back. */
+    /** Six variables and five atoms are made, told of and taken back. */
     private static CallRun thereAndBack(CallRun run) {
         return run.call("mark")
                 .call("variable", 1).call("variable", 1).call("variable", 1).call("variable", 1)
@@ -148,8 +152,7 @@ public final class RefusedCalls {
         for (int birth = 0; birth <= 9; birth++) {
             run.unchanged(CallRun.NONE, "variable", birth);
         }
-        CallRun.sentence("2: IllegalArgumentException: its birth is not 0 .. 9.");
-        dueNoLevels("variable");
+        dueNoLevels("2: IllegalArgumentException: its birth is not 0 .. 9.", "variable");
     }
 
     private static void atom() {
@@ -158,12 +161,12 @@ public final class RefusedCalls {
         for (int birth = 0; birth <= 9; birth++) {
             run.unchanged(CallRun.NONE, "atom", birth);
         }
-        CallRun.sentence("3: IllegalArgumentException: its birth is not 0 .. 9.");
-        dueNoLevels("atom");
+        dueNoLevels("3: IllegalArgumentException: its birth is not 0 .. 9.", "atom");
     }
 
-    private static void dueNoLevels(String name) {
+    private static void dueNoLevels(String words, String name) {
         for (State state : State.values()) {
+            sentence(words, state);
             CallRun run = state.run();
             for (int birth : NO_LEVELS) {
                 run.unchanged(CallRun.WRONG, name, birth);
@@ -172,12 +175,12 @@ public final class RefusedCalls {
     }
 
     private static void has() {
-        CallRun.sentence("4: IndexOutOfBoundsException, of the variable.");
         for (State state : State.values()) {
+            sentence("4: IndexOutOfBoundsException, of the variable.", state);
             dueOut(state.run(), "has", withoutVariable(state, 0));
         }
-        CallRun.sentence("4: IndexOutOfBoundsException, of the atom.");
         for (State state : State.values()) {
+            sentence("4: IndexOutOfBoundsException, of the atom.", state);
             CallRun run = state.run();
             for (int a : state.noAtoms()) {
                 run.unchanged(CallRun.OUT, "has", 0, a);
@@ -187,30 +190,30 @@ public final class RefusedCalls {
     }
 
     private static void includes() {
-        CallRun.sentence("5: IndexOutOfBoundsException.");
         for (State state : State.values()) {
+            sentence("5: IndexOutOfBoundsException.", state);
             dueOut(state.run(), "includes", pairsWithoutVariable(state));
         }
     }
 
     private static void one() {
-        CallRun.sentence("6: IndexOutOfBoundsException.");
         for (State state : State.values()) {
+            sentence("6: IndexOutOfBoundsException.", state);
             dueOut(state.run(), "one", pairsWithoutVariable(state));
         }
     }
 
     private static void copy() {
-        CallRun.sentence("8: IndexOutOfBoundsException: no such variable.");
         for (State state : State.values()) {
+            sentence("8: IndexOutOfBoundsException: no such variable.", state);
             dueOut(state.run(), "copy", withoutVariable(state, 0));
             dueOut(state.run(), "copy", withoutVariable(state, 9));
         }
     }
 
     private static void copyLevel() {
-        CallRun.sentence("8: IllegalArgumentException: the level is not 0 .. 9.");
         for (State state : State.values()) {
+            sentence("8: IllegalArgumentException: the level is not 0 .. 9.", state);
             CallRun run = state.run();
             for (int level : state.variables == 0 ? new int[0] : NO_LEVELS) {
                 run.unchanged(CallRun.WRONG, "copy", 0, level);
@@ -247,8 +250,8 @@ public final class RefusedCalls {
     private static void copyNothingMade() {
         CallRun.sentence("8: Without such a level of the node: its number, and nothing is made.");
         CallRun small = State.SMALL.run();
-        small.unchanged("0", "copy", 3, 0).unchanged("0", "copy", 0, 9).unchanged("1", "copy", 1, 0);
-        small.unchanged("2", "copy", 2, 0).unchanged("2", "copy", 2, 9);
+        small.unchanged("0", "copy", 3, 1).unchanged("0", "copy", 0, 9).unchanged("1", "copy", 1, 1);
+        small.unchanged("2", "copy", 2, 1).unchanged("2", "copy", 2, 9).due(4, "copy", 0, 0);
         // There is no room, but none is needed; 59 is ONE with 2, and 57, born at 0, reaches both.
         State.FULL.run().unchanged("2", "copy", 59, 0).unchanged("2", "copy", 59, 9)
                 .unchanged("57", "copy", 57, 0).unchanged("30", "copy", 31, 9);
@@ -273,15 +276,15 @@ public final class RefusedCalls {
     }
 
     private static void set() {
-        CallRun.sentence("11: IndexOutOfBoundsException.");
         for (State state : State.values()) {
+            sentence("11: IndexOutOfBoundsException.", state);
             dueOutOfVariable(state, "set");
         }
     }
 
     private static void reach() {
-        CallRun.sentence("13: IndexOutOfBoundsException.");
         for (State state : State.values()) {
+            sentence("13: IndexOutOfBoundsException.", state);
             dueOutOfVariable(state, "reach");
         }
     }
@@ -294,23 +297,23 @@ public final class RefusedCalls {
     }
 
     private static void seen() {
-        CallRun.sentence("12: IndexOutOfBoundsException.");
         for (State state : State.values()) {
+            sentence("12: IndexOutOfBoundsException.", state);
             dueOut(state.run(), "seen", withoutVariable(state, 5));
             dueOut(state.run(), "seen", withoutVariable(state, -1));
         }
     }
 
     private static void of() {
-        CallRun.sentence("14: IndexOutOfBoundsException.");
         for (State state : State.values()) {
+            sentence("14: IndexOutOfBoundsException.", state);
             CallRun run = state.run();
             for (int what = 0; what <= 4; what++) {
                 dueOut(run, "of", withoutVariable(state, what));
             }
         }
-        CallRun.sentence("14: NONE for another what.");
         for (State state : State.values()) {
+            sentence("14: NONE for another what.", state);
             for (int v = 0; v < state.variables; v += 29) {
                 dueNone(state.run(), "of", v, 5);
             }
@@ -318,8 +321,8 @@ public final class RefusedCalls {
     }
 
     private static void ofAtom() {
-        CallRun.sentence("15: IndexOutOfBoundsException.");
         for (State state : State.values()) {
+            sentence("15: IndexOutOfBoundsException.", state);
             CallRun run = state.run();
             for (int a : state.noAtoms()) {
                 run.unchanged(CallRun.OUT, "ofAtom", a, 0);
@@ -327,8 +330,8 @@ public final class RefusedCalls {
                 run.unchanged(CallRun.OUT, "ofAtom", a, 2);
             }
         }
-        CallRun.sentence("15: NONE for another what.");
         for (State state : State.values()) {
+            sentence("15: NONE for another what.", state);
             for (int a = 0; a < state.atoms; a += 2) {
                 dueNone(state.run(), "ofAtom", a, 3);
             }
@@ -343,16 +346,16 @@ public final class RefusedCalls {
     }
 
     private static void way() {
-        CallRun.sentence("16: IndexOutOfBoundsException: no such variable ..");
         for (State state : State.values()) {
+            sentence("16: IndexOutOfBoundsException: no such variable ..", state);
             CallRun run = state.run();
             for (int v : state.noVariables()) {
                 run.unchanged(CallRun.OUT, "way", v, 0, -1);
                 run.unchanged(CallRun.OUT, "way", v, 0, 0);
             }
         }
-        CallRun.sentence("16: IndexOutOfBoundsException: no such .. atom.");
         for (State state : State.values()) {
+            sentence("16: IndexOutOfBoundsException: no such .. atom.", state);
             CallRun run = state.run();
             for (int a : state.noAtoms()) {
                 run.unchanged(CallRun.OUT, "way", 0, a, -1);
@@ -377,8 +380,8 @@ public final class RefusedCalls {
     }
 
     private static void count() {
-        CallRun.sentence("17: NONE for another what.");
         for (State state : State.values()) {
+            sentence("17: NONE for another what.", state);
             CallRun run = state.run();
             for (int what : new int[] {-1, -2, 9, 10, 32, 64, 256, 65536, MIN, MAX}) {
                 run.unchanged(CallRun.NONE, "count", what);

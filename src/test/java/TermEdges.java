@@ -33,6 +33,7 @@ public final class TermEdges {
         wayWithTheFewest();
         wayWithTheLeastAtTheFirstPlace();
         backTakesAllSinceTheMark();
+        backTakesFactsOfAllPairs();
         backTakesTheLatestMark();
         backAtOnce();
         madeAnewAfterBack();
@@ -380,6 +381,25 @@ public final class TermEdges {
         }
     }
 
+    /** Whatever row a fact is kept in, nothing of it stays. */
+    private static void backTakesFactsOfAllPairs() {
+        CallRun.sentence("going BACK takes back all that was .. told (of each two variables)");
+        for (String tell : new String[] {"has", "includes", "one"}) {
+            CallRun run = variables(3, 4, 5).times(3, "atom", 6).call("mark");
+            for (int v = 0; v < 3; v++) {
+                for (int w = 0; w < 3; w++) {
+                    run.call(tell, v, w);
+                }
+            }
+            run.due(1, "back").due(0, "count", 4).due(0, "count", 5).due(0, "count", 6);
+            run.due(3, "count", 2).due(3, "count", 3).due(0, "count", 8);
+            for (int v = 0; v < 3; v++) {
+                run.due(1L << v, "reach", v).due(v, "of", v, 0).due(3 + v, "of", v, 2).due(0, "set", v);
+                run.due(6, "ofAtom", v, 0).due(0, "way", v, 0, -1).due(v, "copy", v, 5);
+            }
+        }
+    }
+
     private static void backTakesTheLatestMark() {
         CallRun.sentence("BACK takes back all .. since the latest mark, and that mark");
         CallRun run = new CallRun();
@@ -415,7 +435,7 @@ public final class TermEdges {
         CallRun.sentence("BACK takes back (a number made anew has nothing of before)");
         CallRun run = variables(5).call("atom", 5).call("mark").call("variable", 1).call("atom", 1);
         run.call("has", 1, 1).call("has", 1, 0).call("includes", 1, 0).call("includes", 0, 1);
-        run.call("one", 1, 0).call("includes", 1, 1).call("back");
+        run.call("variable", 2).call("one", 1, 0).call("one", 1, 2).call("includes", 1, 1).call("back");
         run.due(1, "variable", 8).due(1, "atom", 7).due(8, "of", 1, 2).due(8, "of", 1, 3);
         run.due(1, "of", 1, 0).due(1, "of", 1, 1).due(1, "of", 1, 4).due(2, "reach", 1);
         run.due(0, "set", 1).due(7, "ofAtom", 1, 0).due(7, "ofAtom", 1, 1).due(0, "ofAtom", 1, 2);

@@ -14,11 +14,12 @@ final class CallRun {
     static final String STATE = "throws.IllegalStateException";
 
     private static final int MOST_CALLS = 512;
-    private static final int MOST_TOLD = 40;
+    private static final int MOST_TOLD_OF_A_SENTENCE = 5;
     private static final List<String> LOOKS =
             List.of("set", "seen", "reach", "of", "ofAtom", "way", "count");
 
     private static int wrong = 0;
+    private static int wrongOfSentence = 0;
     private static String sentence = "";
 
     /** The calls that may have changed something, in their order. */
@@ -40,6 +41,7 @@ final class CallRun {
     /** The sentence of the document that the next runs test. */
     static void sentence(String words) {
         sentence = words;
+        wrongOfSentence = 0;
     }
 
     static void end() {
@@ -51,7 +53,8 @@ final class CallRun {
 
     static void tell(String what) {
         wrong++;
-        if (wrong <= MOST_TOLD) {
+        wrongOfSentence++;
+        if (wrongOfSentence <= MOST_TOLD_OF_A_SENTENCE) {
             System.out.println(sentence + " -- " + what);
         }
     }
@@ -146,6 +149,7 @@ final class CallRun {
         found.add(List.of());
         found.add(List.of(new Call("shrink"), new Call("variable", 0), new Call("atom", 0)));
         if (made.stream().anyMatch(c -> c.name.equals("mark"))) {
+            found.add(List.of(new Call("back")));
             found.add(List.of(new Call("back"), new Call("back")));
         }
         return found;
