@@ -40,7 +40,6 @@ public final class PromiseTests {
         wayOverOneAndLongest();
         count();
         bothWrong();
-        readme();
         System.out.println(wrong == 0 ? "all answers are as due" : wrong + " answers are not as due");
         if (wrong != 0) {
             System.exit(1);
@@ -817,21 +816,5 @@ public final class PromiseTests {
         dueOut("of(60, 9)", x, () -> x.of(60, 9));
         dueOut("ofAtom(32, 9)", x, () -> x.ofAtom(32, 9));
         dueOut("way(60, 0, -7)", x, () -> x.way(60, 0, -7));
-    }
-
-    private static void readme() {
-        part("README.md");
-        EffectNets nets = new EffectNets();
-        int f = nets.variable(3);
-        int g = nets.variable(5);
-        int reads = nets.atom(4);
-        due("mark", nets.mark(), 1);
-        due("has", nets.has(g, reads), 1);
-        due("includes", nets.includes(f, g), 1);
-        due("set", nets.set(f), 1);
-        due("ofAtom", nets.ofAtom(reads, 0), 3);
-        due("way", nets.way(f, reads, -1), 2);
-        due("copy", nets.copy(g, 2), 2);
-        due("back", nets.back(), 1);
     }
 }
